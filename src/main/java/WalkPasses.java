@@ -517,23 +517,28 @@ public final class WalkPasses {
             countSpilledUpTo(desk, codes, k, MOST_LETTERS);
         }
 
-        /** How many are spilled; passes are left out as soon as they are more than those that matter. */
+        /** How many are spilled; further passes are left out once that is more than matters. */
         int countSpilledUpTo(Desk desk, int[] codes, int k, int most) {
-            begin(desk.letters);
+            begin(desk);
             int unit = 1;
             for (int j = 1; j <= k && desk.letters - coming <= most; j++) {
                 aim(codes, unit, desk.many);
-                pass(desk, j);
+                stack(desk, j);
+                sweep(desk.many);
                 unit *= desk.many;
             }
             return desk.letters - coming;
         }
 
-        private void begin(int letters) {
-            coming = letters;
-            for (int i = 0; i < letters; i++) {
-                order[i] = i;
-                spilledAt[i] = 0;
+        /** What is misread need not come at all: all of it is spilled at the first pass. */
+        private void begin(Desk desk) {
+            coming = 0;
+            for (int letter = 0; letter < desk.letters; letter++) {
+                spilledAt[letter] = desk.misreads[letter];
+                if (desk.misreads[letter] == 0) {
+                    order[coming] = letter;
+                    coming++;
+                }
             }
         }
 
@@ -543,37 +548,28 @@ public final class WalkPasses {
             }
         }
 
-        private void pass(Desk desk, int j) {
+        private void stack(Desk desk, int pass) {
             Arrays.fill(heights, 0);
             Arrays.fill(loads, 0);
             for (int i = 0; i < coming; i++) {
-                if (!stack(desk, order[i])) {
-                    spilledAt[order[i]] = j;
+                int letter = order[i];
+                int stacker = stackerOf[desk.points[letter]];
+                int full = loads[stacker] + desk.thicks[letter];
+                if (full > desk.rooms[stacker]) {
+                    spilledAt[letter] = pass;
+                } else {
+                    loads[stacker] = full;
+                    piles[stacker][heights[stacker]] = letter;
+                    heights[stacker]++;
                 }
             }
-            sweep(desk.many);
-        }
-
-        /** Whether the letter goes in. */
-        private boolean stack(Desk desk, int letter) {
-            int stacker = stackerOf[desk.points[letter]];
-            int load = loads[stacker] + desk.thicks[letter];
-            if (desk.misreads[letter] == 1 || load > desk.rooms[stacker]) {
-                return false;
-            }
-            loads[stacker] = load;
-            piles[stacker][heights[stacker]] = letter;
-            heights[stacker]++;
-            return true;
         }
 
         private void sweep(int many) {
             coming = 0;
             for (int s = 0; s < many; s++) {
-                for (int i = 0; i < heights[s]; i++) {
-                    order[coming] = piles[s][i];
-                    coming++;
-                }
+                System.arraycopy(piles[s], 0, order, coming, heights[s]);
+                coming += heights[s];
             }
         }
 
@@ -624,9 +620,9 @@ public final class WalkPasses {
             return size <= below;
         }
 
-        /** Goes to the next plan: whether there is one. */
-        boolean advance() {
-            for (int i = size - 1; i >= 0; i--) {
+        /** Goes to the next plan that differs at one of the first points: whether there is one. */
+        boolean advance(int firstPoints) {
+            for (int i = Math.min(firstPoints, size) - 1; i >= 0; i--) {
                 int pointsFromHere = size - i;
                 if (codes[points[i]] < below - pointsFromHere) {
                     raise(i);
@@ -671,7 +667,7 @@ public final class WalkPasses {
             boolean more = candidates.begin(desk, k);
             for (plans = 0; plans < MOST_PLANS && more; plans++) {
                 compare(passes.countSpilledUpTo(desk, candidates.codes, k, least));
-                more = candidates.advance();
+                more = candidates.advance(POINTS);
             }
         }
 
@@ -688,21 +684,22 @@ public final class WalkPasses {
         }
     }
 
-    /** What lies in the stackers as long as nothing is spilled: in which order letters come is all one then. */
+    /** What lies in the stackers if nothing is spilled: in which order letters come is all one then. */
     private static final class Weights {
         private final Plans candidates = new Plans();
         private final int[] weightOf = new int[POINTS];
         private final int[][] loads = new int[MOST_PASSES][MOST_STACKERS];
+        private final int[] limits = new int[MOST_STACKERS];
 
         boolean somePlanFits(Desk desk, int k) {
             weigh(desk);
             boolean more = candidates.begin(desk, k);
             for (int n = 0; n < MOST_PLANS && more; n++) {
-                stackAll(desk.many, k);
-                if (fits(desk, k)) {
+                int fitting = countFitting(desk.rooms, desk.many, k);
+                if (fitting == candidates.size) {
                     return true;
                 }
-                more = candidates.advance();
+                more = candidates.advance(fitting + 1);
             }
             return false;
         }
@@ -712,12 +709,16 @@ public final class WalkPasses {
             weigh(desk);
             int least = MOST_ROOM + 1;
             boolean more = candidates.begin(desk, k);
-            for (int n = 0; n < MOST_PLANS && more; n++) {
-                stackAll(desk.many, k);
-                least = Math.min(least, heaviest(desk.many, k));
-                more = candidates.advance();
+            for (int n = 0; n < MOST_PLANS + MOST_ROOM && more && least > 1; n++) {
+                Arrays.fill(limits, least - 1);
+                int fitting = countFitting(limits, desk.many, k);
+                if (fitting == candidates.size) {
+                    least--;
+                } else {
+                    more = candidates.advance(fitting + 1);
+                }
             }
-            return Math.max(least, 1);
+            return least;
         }
 
         private void weigh(Desk desk) {
@@ -729,37 +730,34 @@ public final class WalkPasses {
             }
         }
 
-        private void stackAll(int many, int k) {
-            int unit = 1;
+        /** How many points go in ahead of the first that does not: plans that begin like this one need no look. */
+        private int countFitting(int[] rooms, int many, int k) {
+            empty(k);
+            for (int i = 0; i < candidates.size; i++) {
+                if (!pointFits(candidates.points[i], rooms, many, k)) {
+                    return i;
+                }
+            }
+            return candidates.size;
+        }
+
+        private void empty(int k) {
             for (int j = 0; j < k; j++) {
                 Arrays.fill(loads[j], 0);
-                for (int i = 0; i < candidates.size; i++) {
-                    int point = candidates.points[i];
-                    loads[j][figure(candidates.codes[point], unit, many)] += weightOf[point];
+            }
+        }
+
+        private boolean pointFits(int point, int[] rooms, int many, int k) {
+            int unit = 1;
+            for (int j = 0; j < k; j++) {
+                int stacker = figure(candidates.codes[point], unit, many);
+                loads[j][stacker] += weightOf[point];
+                if (loads[j][stacker] > rooms[stacker]) {
+                    return false;
                 }
                 unit *= many;
             }
-        }
-
-        private boolean fits(Desk desk, int k) {
-            for (int j = 0; j < k; j++) {
-                for (int s = 0; s < desk.many; s++) {
-                    if (loads[j][s] > desk.rooms[s]) {
-                        return false;
-                    }
-                }
-            }
             return true;
-        }
-
-        private int heaviest(int many, int k) {
-            int most = 0;
-            for (int j = 0; j < k; j++) {
-                for (int s = 0; s < many; s++) {
-                    most = Math.max(most, loads[j][s]);
-                }
-            }
-            return most;
         }
     }
 }
