@@ -1,8 +1,11 @@
 import java.util.Random;
 
-/** Long runs of calls, ordinary and wrong ones, each answered by the class and by the model; all that can be asked is compared now and then. */
+/** Long runs of calls, ordinary and wrong ones, each answered by the class and by the model; of every other one the end is that all that can be asked is compared. */
 public final class ModelTest {
+    /** What an object answers to later calls is free. */
     private static final int CALLS = 512;
+    /** So many calls askAll and askPlans need at most. */
+    private static final int CALLS_OF_ALL = 280, CALLS_OF_PLANS = 64;
     private static final int[] ODD = {-2147483648, -7, -1, 0, 1, 2, 3, 4, 5, 9, 10, 16, 19, 20, 24, 63, 64, 99, 100, 2147483647};
 
     private final Random random;
@@ -11,6 +14,7 @@ public final class ModelTest {
     private final boolean tight;
     private final WalkPasses real = new WalkPasses();
     private final WalkModel model = new WalkModel();
+    private int asked = 0;
     private int wrong = 0;
 
     private ModelTest(int seed, int points, boolean tight) {
@@ -26,6 +30,7 @@ public final class ModelTest {
     }
 
     private void same(String call, int got, int want) {
+        asked++;
         if (got == want) return;
         wrong++;
         System.out.println("seed " + seed + ": " + call + " answered " + got + ", due is " + want);
@@ -152,21 +157,28 @@ public final class ModelTest {
         same("fewest()", real.fewest(), model.fewest());
     }
 
-    private int play(int calls) {
-        for (int n = 0; n < calls; n++) {
+    private int play() {
+        boolean asksAll = seed % 2 == 0;
+        boolean asksPlans = asksAll && points <= 4;
+        int calls = CALLS - (asksAll ? CALLS_OF_ALL : 0) - (asksPlans ? CALLS_OF_PLANS : 0);
+        while (asked < calls) {
             if (random.nextInt(3) == 0) change(random.nextInt(13));
             else ask(random.nextInt(11));
-            if (n % 64 == 63) askAll();
-            if (n % 64 == 63 && points <= 4) askPlans();
+        }
+        if (asksAll) askAll();
+        if (asksPlans) askPlans();
+        if (asked > CALLS) {
+            wrong++;
+            System.out.println("seed " + seed + ": " + asked + " calls are too many for one object");
         }
         return wrong;
     }
 
     public static void main(String[] args) {
         int wrong = 0;
-        for (int seed = 0; seed < 200; seed++) wrong += new ModelTest(seed, 1 + seed % 4, seed % 3 != 0).play(CALLS);
-        for (int seed = 200; seed < 230; seed++) wrong += new ModelTest(seed, 5 + seed % 2, seed % 3 != 0).play(CALLS);
-        for (int seed = 230; seed < 240; seed++) wrong += new ModelTest(seed, 7 + seed % 4, true).play(CALLS);
+        for (int seed = 0; seed < 600; seed++) wrong += new ModelTest(seed, 1 + seed / 2 % 4, seed % 3 != 0).play();
+        for (int seed = 600; seed < 660; seed++) wrong += new ModelTest(seed, 5 + seed / 2 % 2, seed % 3 != 0).play();
+        for (int seed = 660; seed < 680; seed++) wrong += new ModelTest(seed, 7 + seed / 2 % 4, true).play();
         System.out.println(wrong == 0 ? "all answers are as the model's" : wrong + " answers are not as the model's");
         if (wrong != 0) System.exit(1);
     }

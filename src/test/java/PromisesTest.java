@@ -11,25 +11,8 @@ public final class PromisesTest {
         }
     }
 
-    /** All that can be asked without plans: equal texts tell that nothing has changed. */
-    private static String all(WalkPasses x) {
-        return x.count(6) + " " + allButImages(x);
-    }
-
-    private static String allButImages(WalkPasses x) {
-        StringBuilder text = new StringBuilder();
-        for (int what = 0; what < 20; what++) if (what != 6) text.append(x.count(what)).append(' ');
-        for (int i = 0; i < 10; i++) text.append(x.walk(i)).append(' ');
-        for (int l = 0; l < x.count(0); l++) text.append(x.of(l, 0)).append(x.of(l, 1)).append(x.of(l, 2)).append(' ');
-        for (int k = 1; k <= 3; k++) {
-            for (int l = 0; l < x.count(0); l++) text.append(x.spilled(k, l));
-            for (int s = 0; s < 4; s++) text.append(' ').append(x.load(k, s));
-        }
-        return text.toString();
-    }
-
     private static void unchanged(WalkPasses x, String before, String call) {
-        if (!all(x).equals(before)) {
+        if (!Sheet.all(x).equals(before)) {
             wrong++;
             System.out.println("promise " + promise + ": " + call + " was refused, but changed something");
         }
@@ -75,7 +58,7 @@ public final class PromisesTest {
         due("of(1, 0)", x.of(1, 0), 9);
         due("of(1, 1)", x.of(1, 1), 9);
         due("of(1, 2)", x.of(1, 2), 0);
-        String before = all(x);
+        String before = Sheet.all(x);
         for (int p : new int[] {LEAST, -1, 10, MOST}) {
             due("letter(" + p + ", 5)", x.letter(p, 5), WalkPasses.UNKNOWN);
             due("letter(" + p + ", 0)", x.letter(p, 0), WalkPasses.UNKNOWN);
@@ -83,7 +66,7 @@ public final class PromisesTest {
         for (int t : new int[] {LEAST, -1, 0, 10, MOST}) due("letter(0, " + t + ")", x.letter(0, t), WalkPasses.OUTSIDE);
         unchanged(x, before, "letter");
         x = full();
-        before = all(x);
+        before = Sheet.all(x);
         due("letter(0, 1) of 25", x.letter(0, 1), WalkPasses.FULL);
         due("letter(0, 0) of 25", x.letter(0, 0), WalkPasses.OUTSIDE);
         due("letter(10, 0) of 25", x.letter(10, 0), WalkPasses.UNKNOWN);
@@ -102,7 +85,7 @@ public final class PromisesTest {
         due("misread(1, 0)", x.misread(1, 0), 1);
         due("misread(0, 0)", x.misread(0, 0), 1);
         due("of(2, 2)", x.of(2, 2), 1);
-        String before = all(x);
+        String before = Sheet.all(x);
         for (int l : new int[] {LEAST, -1, 3, 24, MOST}) {
             due("misread(" + l + ", 1)", x.misread(l, 1), WalkPasses.UNKNOWN);
             due("misread(" + l + ", 2)", x.misread(l, 2), WalkPasses.UNKNOWN);
@@ -114,7 +97,7 @@ public final class PromisesTest {
     private static void drop() {
         WalkPasses x = with(4, 1, 5, 2, 6, 3, 7, 4);
         x.misread(2, 1);
-        String before = all(x);
+        String before = Sheet.all(x);
         for (int l : new int[] {LEAST, -1, 4, MOST}) due("drop(" + l + ")", x.drop(l), WalkPasses.UNKNOWN);
         unchanged(x, before, "drop");
         due("drop(1)", x.drop(1), 3);
@@ -141,7 +124,7 @@ public final class PromisesTest {
         due("walk(0)", x.walk(0), 2);
         due("walk(7)", x.walk(7), 0);
         due("change(0, 0)", x.change(0, 0), 7);
-        String before = all(x);
+        String before = Sheet.all(x);
         for (int p : new int[] {LEAST, -1, 10, MOST}) {
             due("change(" + p + ", 3)", x.change(p, 3), WalkPasses.UNKNOWN);
             due("change(3, " + p + ")", x.change(3, p), WalkPasses.UNKNOWN);
@@ -169,7 +152,7 @@ public final class PromisesTest {
         due("room(2, 9)", x.room(2, 9), WalkPasses.UNKNOWN);
         due("stackers(4)", x.stackers(4), 2);
         due("count(5)", x.count(5), 67);
-        String before = all(x);
+        String before = Sheet.all(x);
         for (int v : new int[] {LEAST, -1, 0, 1, 5, MOST}) due("stackers(" + v + ")", x.stackers(v), WalkPasses.OUTSIDE);
         unchanged(x, before, "stackers");
     }
@@ -180,7 +163,7 @@ public final class PromisesTest {
         due("room(0, 99)", x.room(0, 99), 1);
         due("room(0, 50)", x.room(0, 50), 99);
         due("room(1, 5)", x.room(1, 5), 20);
-        String before = all(x);
+        String before = Sheet.all(x);
         for (int s : new int[] {LEAST, -1, 3, 4, MOST}) {
             due("room(" + s + ", 5)", x.room(s, 5), WalkPasses.UNKNOWN);
             due("room(" + s + ", 0)", x.room(s, 0), WalkPasses.UNKNOWN);
@@ -196,7 +179,7 @@ public final class PromisesTest {
         due("code(9, 1)", x.code(9, 1), 0);
         due("count(10)", x.count(10), 7);
         due("count(19)", x.count(19), 1);
-        String before = all(x);
+        String before = Sheet.all(x);
         for (int p : new int[] {LEAST, -1, 10, MOST}) {
             due("code(" + p + ", 5)", x.code(p, 5), WalkPasses.UNKNOWN);
             due("code(" + p + ", 64)", x.code(p, 64), WalkPasses.UNKNOWN);
@@ -450,13 +433,13 @@ public final class PromisesTest {
         x.room(1, 9);
         due("take(1) with less room", x.take(1), 1);
         due("count(14) with less room", x.count(14), 0);
-        String before = all(x);
+        String before = Sheet.all(x);
         for (int k : new int[] {LEAST, -1, 0, 4, MOST}) due("take(" + k + ")", x.take(k), WalkPasses.OUTSIDE);
         due("take(3) of 27 codes", x.take(3), WalkPasses.NO);
         unchanged(x, before, "take");
         x.letter(0, 1);
         x.letter(1, 1);
-        before = all(x);
+        before = Sheet.all(x);
         due("take(1): no plan", x.take(1), WalkPasses.NO);
         unchanged(x, before, "take of no plan");
         x = new WalkPasses();
@@ -508,7 +491,7 @@ public final class PromisesTest {
         x.misread(1, 1);
         due("needs(1) without a misread one", x.needs(1), 7);
         x.room(0, 1);
-        String before = all(x);
+        String before = Sheet.all(x);
         due("needs(1) whatever the rooms", x.needs(1), 7);
         unchanged(x, before, "needs");
         x.letter(3, 1);
@@ -542,14 +525,14 @@ public final class PromisesTest {
 
     private static void image() {
         WalkPasses x = sample();
-        String before = allButImages(x);
+        String before = Sheet.allButImages(x);
         due("image(1)", x.image(1), 1);
         due("count(6)", x.count(6), 2);
         due("image(0)", x.image(0), 1);
         due("count(6)", x.count(6), 3);
-        due("nothing but images changes", allButImages(x).equals(before) ? 1 : 0, 1);
+        due("nothing but images changes", Sheet.allButImages(x).equals(before) ? 1 : 0, 1);
         changeAll(x);
-        String second = all(x);
+        String second = Sheet.all(x);
         due("image(1) in place of what was kept", x.image(1), 1);
         x.drop(0);
         x.restore(1);
@@ -557,15 +540,15 @@ public final class PromisesTest {
         for (int k : new int[] {LEAST, -1, 2, 32, 33, MOST}) due("image(" + k + ")", x.image(k), WalkPasses.OUTSIDE);
         unchanged(x, second, "image");
         x.restore(0);
-        due("image 0 is still the first", allButImages(x).equals(before) ? 1 : 0, 1);
+        due("image 0 is still the first", Sheet.allButImages(x).equals(before) ? 1 : 0, 1);
     }
 
     private static void restore() {
         WalkPasses x = sample();
         x.change(1, 8);
-        String first = allButImages(x);
+        String first = Sheet.allButImages(x);
         x.image(0);
-        String before = all(x);
+        String before = Sheet.all(x);
         due("restore(1): nothing was kept", x.restore(1), WalkPasses.STATE);
         for (int k : new int[] {LEAST, -1, 2, 32, 33, MOST}) due("restore(" + k + ")", x.restore(k), WalkPasses.OUTSIDE);
         unchanged(x, before, "restore");
@@ -573,7 +556,7 @@ public final class PromisesTest {
         x.image(1);
         for (int n = 0; n < 2; n++) {
             due("restore(0)", x.restore(0), 1);
-            due("all is as it was", allButImages(x).equals(first) ? 1 : 0, 1);
+            due("all is as it was", Sheet.allButImages(x).equals(first) ? 1 : 0, 1);
             due("count(6): which images are kept is in no image", x.count(6), 3);
             changeAll(x);
         }
@@ -583,7 +566,7 @@ public final class PromisesTest {
         due("change(9, 9): the place in the walk", x.change(9, 9), 9);
         due("change(0, 0): the place in the walk", x.change(0, 0), 0);
         x = new WalkPasses();
-        before = all(x);
+        before = Sheet.all(x);
         due("restore(0) of a new object", x.restore(0), WalkPasses.STATE);
         unchanged(x, before, "restore(0) of a new object");
     }
