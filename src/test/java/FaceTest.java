@@ -47,6 +47,14 @@ public final class FaceTest {
         due("private methods with a public name", hiddenByName, List.of());
     }
 
+    /** Rule 1 of the language does not say of which class: no private method of an inner one has a public name either. */
+    private static void hiddenNames(Class<?> inner) {
+        for (Method m : inner.getDeclaredMethods()) {
+            boolean isOfFace = METHODS.stream().anyMatch(n -> n.startsWith(m.getName() + "/"));
+            due(inner.getSimpleName() + "." + m.getName() + " is private with a public name", !isSeen(m) && isOfFace, false);
+        }
+    }
+
     private static void fields(Class<?> type) throws IllegalAccessException {
         List<String> seen = new ArrayList<>();
         for (Field f : type.getDeclaredFields()) {
@@ -75,6 +83,7 @@ public final class FaceTest {
         for (Class<?> inner : type.getDeclaredClasses()) {
             due(inner.getSimpleName() + " is static", Modifier.isStatic(inner.getModifiers()), true);
             due(inner.getSimpleName() + " is public", Modifier.isPublic(inner.getModifiers()), false);
+            hiddenNames(inner);
         }
         System.out.println(wrong == 0 ? "the face is as due" : wrong + " things of the face are not as due");
         if (wrong != 0) System.exit(1);
